@@ -255,22 +255,27 @@ public final class ThreeTouched {
         if (!isWithin(what, 0, 2)) {
             return finding(BEYOND);
         }
-        if (!scene.hasThree()) {
+        if (missesAnswer(0) == STATE) {
             return finding(STATE);
         }
-        finder.renew(scene);
         if (what == 0) {
             return finder.size;
         }
         return what == 1 ? finder.loose : finder.answered;
     }
 
-    /** Which finding, if any, keeps the k-th ANSWER from being told: -1 if none does. */
+    /** Which finding, if any, keeps the k-th ANSWER from being told (-1: none does); ANSWERS are found then. */
     private int missesAnswer(int k) {
         if (!scene.hasThree()) {
             return STATE;
         }
-        finder.renew(scene);
+        if (scene.changed) {
+            finder.forget();
+            for (int signs = 0; signs < MOST_SIGNS; signs++) {
+                finder.findBy(scene, signs);
+            }
+            scene.changed = false;
+        }
         return k >= 0 && k < finder.size ? -1 : NONE;
     }
 
@@ -621,6 +626,10 @@ public final class ThreeTouched {
         int radius;
         int slant;
         int c;
+        /** The numbers a, b, l of its SLANT. */
+        int a;
+        int b;
+        int l;
 
         void becomeRound(int newX, int newY, int newRadius) {
             straight = false;
@@ -631,8 +640,17 @@ public final class ThreeTouched {
 
         void becomeStraight(int newSlant, int newC) {
             straight = true;
-            slant = newSlant;
+            setSlant(newSlant);
             c = newC;
+        }
+
+        private void setSlant(int newSlant) {
+            if (isWithin(newSlant, 0, SLANT_A.length - 1)) {
+                slant = newSlant;
+                a = SLANT_A[newSlant];
+                b = SLANT_B[newSlant];
+                l = SLANT_L[newSlant];
+            }
         }
 
         void become(Shape other) {
@@ -640,7 +658,7 @@ public final class ThreeTouched {
             x = other.x;
             y = other.y;
             radius = other.radius;
-            slant = other.slant;
+            setSlant(other.slant);
             c = other.c;
         }
 
@@ -653,22 +671,6 @@ public final class ThreeTouched {
 
         boolean isOf(int kind) {
             return kind == SHAPE || kind == (straight ? STRAIGHT : ROUND) || kind == lowestKind();
-        }
-
-        private int bySlant(int[] row) {
-            return slant >= 0 && slant < row.length ? row[slant] : 0;
-        }
-
-        int a() {
-            return bySlant(SLANT_A);
-        }
-
-        int b() {
-            return bySlant(SLANT_B);
-        }
-
-        int l() {
-            return bySlant(SLANT_L);
         }
 
         int measure(int what) {
@@ -711,7 +713,7 @@ public final class ThreeTouched {
                     radius = v;
                     break;
                 case 4:
-                    slant = v;
+                    setSlant(v);
                     break;
                 default:
                     c = v;
@@ -724,9 +726,9 @@ public final class ThreeTouched {
                 case 0:
                     return straight ? 0 : 1;
                 case 1:
-                    return straight ? a() : -2 * x;
+                    return straight ? a : -2 * x;
                 case 2:
-                    return straight ? b() : -2 * y;
+                    return straight ? b : -2 * y;
                 default:
                     return straight ? -c : x * x + y * y - radius * radius;
             }
@@ -754,7 +756,7 @@ public final class ThreeTouched {
         /** How many points this STRAIGHT has in common with a ROUND. */
         private int crossings(Shape round) {
             int side = powerIn(round.x, round.y);
-            int reach = l() * round.radius;
+            int reach = l * round.radius;
             return 1 - Integer.compare(side * side, reach * reach);
         }
 
@@ -792,7 +794,7 @@ public final class ThreeTouched {
 
         /** What stands ahead of r in the equation of this STRAIGHT, x and y being on the same side. */
         int slope(boolean bit) {
-            return bit ? l() : -l();
+            return bit ? l : -l;
         }
     }
 
@@ -1291,17 +1293,10 @@ public final class ThreeTouched {
             trim(top);
         }
 
-        void takeSum(Big a, Big b) {
-            combine(a, b, b.sign);
-        }
-
-        void takeDifference(Big a, Big b) {
-            combine(a, b, -b.sign);
-        }
-
-        /** Takes a with b, whose sign counts as told; this one may be a or b. */
-        private void combine(Big a, Big b, int signOfB) {
+        /** Takes a and side (1 or -1) times b; this one may be a or b. */
+        void takeSum(Big a, int side, Big b) {
             int signOfA = a.sign;
+            int signOfB = side * b.sign;
             if (signOfA * signOfB >= 0) {
                 sign = signOfA != 0 ? signOfA : signOfB;
                 addLimbs(a, b);
@@ -1369,7 +1364,7 @@ public final class ThreeTouched {
         int order(Num s, Num t) {
             takeProduct(first, s.p(), t.m());
             takeProduct(second, t.p(), s.m());
-            whole.takeDifference(first, second);
+            whole.takeSum(first, -1, second);
             takeProduct(first, s.q(), t.m());
             takeProduct(second, t.q(), s.m());
             second.sign = -second.sign;
@@ -1407,16 +1402,16 @@ public final class ThreeTouched {
          */
         private int wholeAgainstRoots() {
             one.takeProduct(whole, whole);
-            gap.takeDifference(one, firstSquare);
-            gap.takeDifference(gap, secondSquare);
+            gap.takeSum(one, -1, firstSquare);
+            gap.takeSum(gap, -1, secondSquare);
             int product = first.sign * second.sign;
             if (gap.sign != product) {
                 return Integer.compare(gap.sign, product);
             }
             one.takeProduct(gap, gap);
             other.takeProduct(firstSquare, secondSquare);
-            other.takeSum(other, other);
-            other.takeSum(other, other);
+            other.takeSum(other, 1, other);
+            other.takeSum(other, 1, other);
             return product * one.sizeAgainst(other);
         }
 
@@ -1430,11 +1425,11 @@ public final class ThreeTouched {
             }
             takeProduct(first, row[1], row[1]);
             takeProduct(second, row[2], row[2]);
-            whole.takeSum(first, second);
+            whole.takeSum(first, 1, second);
             takeProduct(spare, row[0], row[3]);
-            spare.takeSum(spare, spare);
-            spare.takeSum(spare, spare);
-            gap.takeDifference(whole, spare);
+            spare.takeSum(spare, 1, spare);
+            spare.takeSum(spare, 1, spare);
+            gap.takeSum(whole, -1, spare);
             if (gap.sign == 0) {
                 return POINT;
             }
@@ -1462,12 +1457,16 @@ public final class ThreeTouched {
         }
 
         void add(long factor, Vector a) {
-            set(x + factor * a.x, y + factor * a.y, z + factor * a.z);
+            x += factor * a.x;
+            y += factor * a.y;
+            z += factor * a.z;
         }
 
         /** Adds factor times a, its last number with the other sign. */
         void addBent(long factor, Vector a) {
-            set(x + factor * a.x, y + factor * a.y, z - factor * a.z);
+            x += factor * a.x;
+            y += factor * a.y;
+            z -= factor * a.z;
         }
 
         long straightProduct(Vector a) {
@@ -1509,6 +1508,11 @@ public final class ThreeTouched {
             r.hold(row[2], row[5], d, row[6]);
         }
 
+        /** Whether r is above 0: t times its size is the greater, the greater t is. */
+        boolean hasRadius() {
+            return row[2] * Math.abs(row[2]) + row[5] * Math.abs(row[5]) * d > 0;
+        }
+
         Num part(int which) {
             return which == 0 ? x : which == 1 ? y : r;
         }
@@ -1527,8 +1531,8 @@ public final class ThreeTouched {
 
         private boolean touchesStraight(Shape shape, boolean bit) {
             long slope = shape.slope(bit);
-            long whole = shape.a() * row[0] + shape.b() * row[1] + slope * row[2] - shape.c * row[6];
-            long rooted = shape.a() * row[3] + shape.b() * row[4] + slope * row[5];
+            long whole = shape.a * row[0] + shape.b * row[1] + slope * row[2] - shape.c * row[6];
+            long rooted = shape.a * row[3] + shape.b * row[4] + slope * row[5];
             return whole == 0 && rooted == 0;
         }
 
@@ -1560,6 +1564,9 @@ public final class ThreeTouched {
         private final Vector start = new Vector();
         private final Vector whole = new Vector();
         private final Vector rooted = new Vector();
+        /** ANSWERS are at start and the root of square times along, on either side of it, by m: none if square is below 0. */
+        private long square;
+        private long m;
         private final Num root = new Num();
 
         Finder(Judge judge) {
@@ -1572,20 +1579,10 @@ public final class ThreeTouched {
             }
         }
 
-        /** Finds ANSWERS of a scene that has THE THREE, unless they are found already. */
-        void renew(Scene scene) {
-            if (!scene.changed) {
-                return;
-            }
+        void forget() {
             size = 0;
             loose = 0;
             answered = 0;
-            for (int signs = 0; signs < MOST_SIGNS; signs++) {
-                if (doCount(scene, signs)) {
-                    findBy(scene, signs);
-                }
-            }
-            scene.changed = false;
         }
 
         private static boolean hasBit(int signs, int n) {
@@ -1601,31 +1598,42 @@ public final class ThreeTouched {
             return true;
         }
 
-        private void findBy(Scene scene, int signs) {
-            int before = size;
-            boolean isLoose = layPlanes(scene, signs) ? meetCone(signs) : meetPlanes(signs);
+        /** Finds ANSWERS by SIGNS, of a scene that has THE THREE. */
+        void findBy(Scene scene, int signs) {
+            if (!doCount(scene, signs)) {
+                return;
+            }
+            boolean isLoose = layPlanes(scene, signs) ? meetCone() : meetPlanes();
             if (isLoose) {
                 loose |= 1 << signs;
+                return;
             }
-            if (size > before) {
-                answered |= 1 << signs;
-            }
-            if (size == before + 2 && isAhead(circles[before + 1], circles[before])) {
-                Circle moved = circles[before];
-                circles[before] = circles[before + 1];
-                circles[before + 1] = moved;
+            root.holdRoot(square);
+            int meetings = Long.compare(square, 0) + 1;
+            int side = lesserSide();
+            for (int n = 0; n < meetings && size < MOST_ANSWERS; n++) {
+                takePlace(side);
+                circles[size].become(whole, rooted, root.d, m, base);
+                circles[size].signs = signs;
+                if (circles[size].hasRadius()) {
+                    size++;
+                    answered |= 1 << signs;
+                }
+                side = -side;
             }
         }
 
-        private boolean isAhead(Circle a, Circle b) {
-            int order = judge.order(a.r, b.r);
-            if (order == 0) {
-                order = judge.order(a.x, b.x);
-            }
-            if (order == 0) {
-                order = judge.order(a.y, b.y);
-            }
-            return order < 0;
+        /** Which side of start, along the line, has the lesser r, or of like r the lesser x, then the lesser y. */
+        private int lesserSide() {
+            long lead = along.z != 0 ? along.z : along.x != 0 ? along.x : along.y;
+            return lead > 0 == m > 0 ? -1 : 1;
+        }
+
+        private void takePlace(int side) {
+            whole.set(start.x, start.y, start.z);
+            whole.add(side * root.p(), along);
+            rooted.set(0, 0, 0);
+            rooted.add(side * root.q(), along);
         }
 
         /** The first ANSWER of greatest r (side 1), or of least (side -1); 0 if there are none. */
@@ -1678,7 +1686,7 @@ public final class ThreeTouched {
 
         private void layPlane(Vector plane, Shape shape, boolean bit) {
             if (shape.straight) {
-                plane.set(shape.a(), shape.b(), shape.slope(bit));
+                plane.set(shape.a, shape.b, shape.slope(bit));
                 plane.twice = 2 * (shape.c - plane.straightProduct(base));
             } else {
                 plane.set(shape.x - base.x, shape.y - base.y, shape.shift(bit) + base.z);
@@ -1687,98 +1695,69 @@ public final class ThreeTouched {
         }
 
         /** Where three planes cross; whether SIGNS are LOOSE. */
-        private boolean meetPlanes(int signs) {
+        private boolean meetPlanes() {
             cross.takeCross(planes[1], planes[2]);
             long volume = planes[0].straightProduct(cross);
             if (volume == 0) {
                 return true;
             }
-            whole.set(0, 0, 0);
-            whole.add(planes[0].twice, cross);
+            start.set(0, 0, 0);
+            start.add(planes[0].twice, cross);
             cross.takeCross(planes[2], planes[0]);
-            whole.add(planes[1].twice, cross);
+            start.add(planes[1].twice, cross);
             cross.takeCross(planes[0], planes[1]);
-            whole.add(planes[2].twice, cross);
-            rooted.set(0, 0, 0);
-            keep(signs, 0, 2 * volume);
+            start.add(planes[2].twice, cross);
+            square = 0;
+            m = 2 * volume;
             return false;
         }
 
         /** Where the line in which two planes cross meets the cone; whether SIGNS are LOOSE. */
-        private boolean meetCone(int signs) {
+        private boolean meetCone() {
             along.takeCross(planes[0], planes[1]);
             if (along.isZero()) {
                 return true;
             }
             if (along.bentProduct(along) == 0) {
-                return followEdge(signs);
+                return followEdge();
             }
-            pierceCone(signs);
+            pierceCone(planes[0], planes[1]);
             return false;
         }
 
         /** The line isn't as steep as the cone: it meets that twice, once or never. */
-        private void pierceCone(int signs) {
-            Vector one = planes[0];
-            Vector two = planes[1];
+        private void pierceCone(Vector one, Vector two) {
             long oneOne = one.bentProduct(one);
             long oneTwo = one.bentProduct(two);
             long twoTwo = two.bentProduct(two);
             long byOne = oneTwo * two.twice - twoTwo * one.twice;
             long byTwo = oneTwo * one.twice - oneOne * two.twice;
-            long square = -byOne * one.twice - byTwo * two.twice;
-            if (square < 0) {
-                return;
-            }
             start.set(0, 0, 0);
             start.addBent(byOne, one);
             start.addBent(byTwo, two);
-            root.holdRoot(square);
-            keepOnLine(signs, 1);
-            if (square > 0) {
-                keepOnLine(signs, -1);
-            }
-        }
-
-        private void keepOnLine(int signs, int side) {
-            whole.set(start.x, start.y, start.z);
-            whole.add(side * root.p(), along);
-            rooted.set(0, 0, 0);
-            rooted.add(side * root.q(), along);
-            keep(signs, root.d, 2 * along.bentProduct(along));
+            square = -byOne * one.twice - byTwo * two.twice;
+            m = 2 * along.bentProduct(along);
         }
 
         /** The line is as steep as the cone: it meets that once or never, or lies in it, which is LOOSE. */
-        private boolean followEdge(int signs) {
-            start.set(0, 0, 0);
+        private boolean followEdge() {
+            whole.set(0, 0, 0);
             cross.takeCross(planes[1], along);
-            start.add(planes[0].twice, cross);
+            whole.add(planes[0].twice, cross);
             cross.takeCross(along, planes[0]);
-            start.add(planes[1].twice, cross);
-            long lean = start.bentProduct(along);
-            long off = start.bentProduct(start);
+            whole.add(planes[1].twice, cross);
+            long lean = whole.bentProduct(along);
+            long off = whole.bentProduct(whole);
             if (lean == 0) {
+                square = -1;
                 return off == 0;
             }
-            whole.set(0, 0, 0);
-            whole.add(2 * lean, start);
-            whole.add(-off, along);
-            rooted.set(0, 0, 0);
-            keep(signs, 0, 4 * lean * along.straightProduct(along));
+            start.set(0, 0, 0);
+            start.add(2 * lean, whole);
+            start.add(-off, along);
+            square = 0;
+            m = 4 * lean * along.straightProduct(along);
             return false;
-        }
-
-        /** Keeps the circle at whole and rooted by m, if its r is above 0. */
-        private void keep(int signs, long d, long m) {
-            if (size >= MOST_ANSWERS) {
-                return;
-            }
-            Circle circle = circles[size];
-            circle.become(whole, rooted, d, m, base);
-            circle.signs = signs;
-            if (judge.sign(circle.r) > 0) {
-                size++;
-            }
         }
     }
 }
