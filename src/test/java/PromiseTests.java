@@ -230,6 +230,29 @@ public final class PromiseTests {
         x.change(4, 5, 30);
         due("11: off", x.lie(0, 4), 0);
 
+        ThreeTouched w = new ThreeTouched();
+        w.round(0, 0, 1);
+        w.round(0, 0, 1);
+        for (int far = 1; far <= 4; far++) {
+            w.change(1, 1, far);
+            for (int radius = 1; radius <= 5; radius++) {
+                w.change(1, 3, radius);
+                boolean meet = far <= radius + 1 && far >= radius - 1;
+                boolean touch = far == radius + 1 || far == radius - 1;
+                due("11: rounds " + far + " apart", w.lie(0, 1), touch ? 1 : meet ? 2 : 0);
+                due("11: rounds " + far + " apart", w.lie(1, 0), touch ? 1 : meet ? 2 : 0);
+            }
+        }
+        w.straight(0, 0);
+        for (int slant = 0; slant <= 5; slant++) {
+            int l = slant < 2 ? 1 : 5;
+            w.change(2, 4, slant);
+            for (int c = -l - 1; c <= l + 1; c++) {
+                w.change(2, 5, c);
+                due("11: slant " + slant + ", c " + c, w.lie(0, 2), 1 - Integer.compare(c * c, l * l));
+            }
+        }
+
         ThreeTouched y = new ThreeTouched();
         y.round(1, -2, 3);
         y.straight(4, 7);
