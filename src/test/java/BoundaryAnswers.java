@@ -493,11 +493,60 @@ final class BoundaryAnswers extends Boundary {
         x.due(3, "round", 1, 1, 1);
         x.due(0, "touches", 0, 3);
         x.due(0, "touches", 1, 3);
-        // the second one's STRAIGHT x = 4 + 2 root 2 isn't whole: 6 and 7 are beside it
+        // the second one's STRAIGHT x = 4 + 2 root 2 isn't whole: 6 and 7 are beside it; 4 would do but for the root
         x.due(4, "straight", 0, 6);
         x.due(5, "straight", 0, 7);
         x.due(0, "touches", 1, 4);
         x.due(0, "touches", 1, 5);
+        x.due(6, "change", 4, 5, 4);
+        x.due(0, "touches", 0, 4);
+        x.due(0, "touches", 1, 4);
+    }
+
+    @Said(where = "Promise 23", words = TOUCHES)
+    void touchesOnlyIfTheRootsAreAlikeToo() {
+        // the circles about 2 -+ root 2, 5 by 2 with r 5 by 2; from -2, -1 they are 121 by 4 -+ 8 root 2 apart, squared
+        x.due(0, "straight", 1, 5);
+        x.due(1, "round", 2, 3, 1);
+        x.due(2, "round", 2, 2, 4);
+        x.due(3, "round", -2, -1, 3);
+        x.part(0, 0, 2, -1, 2, 1);
+        x.part(1, 0, 2, 1, 2, 1);
+        for (int k = 0; k < 2; k++) {
+            x.part(k, 1, 5, 0, 0, 2);
+            x.part(k, 2, 5, 0, 0, 2);
+            x.due(2, "touches", k, 0);
+            x.due(1, "touches", k, 1);
+            x.due(1, "touches", k, 2);
+            x.due(0, "touches", k, 3);
+        }
+    }
+
+    @Said(where = "Promise 23", words = TOUCHES)
+    void touchesOnlyIfTheRestIsAlikeToo() {
+        // about 0, (10 root 10 - 37) by 9 with r (44 - 8 root 10) by 9: r and 4 are (80 - 8 root 10) by 9, which squared is
+        // 7040 - 1280 root 10 by 81; from 2, 3 it is 324 + 5096 - 1280 root 10 by 81, of which the root alone is alike
+        x.due(0, "straight", 2, 8);
+        x.due(1, "round", 1, -1, 1);
+        x.due(2, "straight", 4, -8);
+        x.due(3, "round", 2, 3, 4);
+        x.part(0, 1, -37, 10, 10, 9);
+        x.part(0, 2, 44, -8, 10, 9);
+        x.due(0, "touches", 0, 3);
+        x.due(0, "touches", 1, 3);
+    }
+
+    @Said(where = "Promise 23", words = TOUCHES)
+    void touchesSlantedStraightsByTheirBits() {
+        x.due(0, "round", 0, -1, 4);
+        x.due(1, "round", -2, -1, 3);
+        x.due(2, "straight", 5, -5);
+        x.due(8, "answers", 0);
+        for (int k = 0; k < 8; k++) {
+            for (int i = 0; i < 3; i++) {
+                x.due(1 + (k >> i & 1), "touches", k, i);
+            }
+        }
     }
 
     @Said(where = "Promise 23", words = TOUCHES)

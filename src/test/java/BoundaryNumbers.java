@@ -1,6 +1,8 @@
 /** Boundary cases of promises 27 to 34: numbers in spots. */
 final class BoundaryNumbers extends Boundary {
     private static final long HALF = 1L << 62;
+    /** Every second bit: twice that has just the bits that it hasn't. */
+    private static final long THIRD = 0x5555555555555555L;
 
     // ---- 27: put
 
@@ -297,6 +299,7 @@ final class BoundaryNumbers extends Boundary {
         over(0, n(0, 7, 4), n((1L << 61) + 1, 5, 1), 2);
         over(0, n(-9, 0, 4), n(-(1L << 61) - 1, 0, 1), 0);
         over(0, n(1, 0, 1), n(MOST, 0, 1), 0);
+        over(0, n(THIRD, 0, 1), n(THIRD, 0, 1), 0);
         over(0, n(LEAST, 0, 1), n(-1, 0, 1), 0);
         // q w, v m, q w + v m; m w
         over(0, n(0, (1L << 61) + 1, 1), n(1, 0, 4), 2);
@@ -329,6 +332,7 @@ final class BoundaryNumbers extends Boundary {
         over(1, n(1, 0, 2), n(HALF + 1, 0, 1), 0);
         over(1, n(9, 0, 8), n(-(1L << 60) - 1, 0, 4), 0);
         over(1, n(0, 0, 1), n(LEAST, 0, 1), 0);
+        over(1, n(-THIRD - 1, 0, 1), n(THIRD, 0, 1), 0);
         over(1, n(-2, 0, 1), n(MOST, 0, 1), 0);
         over(1, n(LEAST, 0, 1), n(1, 0, 1), 0);
         // q w, v m, q w - v m; m w
@@ -487,6 +491,24 @@ final class BoundaryNumbers extends Boundary {
     }
 
     @Said(where = "Promise 31", words = COMPARE)
+    void compareNearRootsOfUnlikeNumbers() {
+        // p + q times the root of d against v times the root of another: less than 4 by a million apart
+        long[][] rows = {
+            {235963892965621811L, 5957234430635240800L, 2, 5000295361521336599L, 3, -1},
+            {-103998211209221348L, 2701035664215241003L, 2, 2145342989558710263L, 3, -1},
+            {936894464708492235L, 8271542005069794465L, 5, 19432789846205171L, 999983, 1},
+            {845422537541300841L, 8714602157084404978L, 5, 20332038180707368L, 999983, -1},
+            {559319858885804445L, 8502414349446325025L, 6, 8083109137019338278L, 7, -1},
+            {-492678993998679301L, 6322132554542364508L, 6, 5666942236092280508L, 7, 1},
+        };
+        for (long[] row : rows) {
+            x.hold(0, row[0], row[1], row[2], 1);
+            x.hold(1, 0, row[3], row[4], 1);
+            compares((int) row[5]);
+        }
+    }
+
+    @Said(where = "Promise 31", words = COMPARE)
     void compareTheUtmost() {
         x.hold(0, MOST, MOST, 2, 1);
         x.hold(1, MOST, MOST, 3, 1);
@@ -500,6 +522,22 @@ final class BoundaryNumbers extends Boundary {
         compares(-1);
         x.hold(0, MOST, 0, 0, 1);
         compares(0);
+    }
+
+    @Said(where = "Promise 31", words = COMPARE)
+    void compareAroundTheBorderOfInts() {
+        // 2 to the 32 less 1 against root 2 times 2 to the 32, and against the root of 2 by 2 times that
+        long border = 1L << 32;
+        x.hold(0, border, -border, 2, 1);
+        x.hold(1, 1, 0, 0, 1);
+        compares(-1);
+        x.hold(0, border, -border / 2, 2, 1);
+        compares(1);
+        x.hold(0, border, 0, 0, 1);
+        x.hold(1, border - 1, 0, 0, 1);
+        compares(1);
+        x.hold(1, border + 1, 0, 0, 1);
+        compares(-1);
     }
 
     @Said(where = "Promise 31", words = COMPARE)

@@ -41,6 +41,32 @@ final class BoundaryPiles extends Boundary {
         x.due(1, "count", 4);
     }
 
+    @Said(where = "Promise 39", words = "SHAPES, THE THREE, z come to THE PILE: how many images it has.")
+    void imagesKeepEachMeasure() {
+        x.due(0, "round", -5, 4, 3);
+        x.due(1, "straight", 2, -30);
+        x.due(2, "straight", 4, 17);
+        x.due(1, "image");
+        for (int what = 1; what <= 3; what++) {
+            x.ask("change", 0, what, 1);
+        }
+        for (int what = 4; what <= 5; what++) {
+            x.ask("change", 1, what, 1);
+        }
+        x.due(1, "swap", 1, 2);
+        x.due(1, "swap", 0, 1);
+        x.due(3, "back");
+        int[] round = {-5, 4, 3};
+        for (int what = 1; what <= 3; what++) {
+            x.due(round[what - 1], "of", 0, what);
+        }
+        x.due(2, "of", 1, 4);
+        x.due(-30, "of", 1, 5);
+        x.due(4, "of", 2, 4);
+        x.due(17, "of", 2, 5);
+        x.due(-4, "of", 2, 8);
+    }
+
     @Said(where = "Promise 39", words = "FULL.")
     void imageFull() {
         for (int n = 1; n <= 8; n++) {

@@ -388,6 +388,25 @@ final class BoundaryShapes extends Boundary {
         x.due(3, "of", 3, 5);
     }
 
+    @Said(where = "Promise 9", words = "Two SHAPES change numbers: 1.")
+    void swappedShapesHaveOtherSigns() {
+        straightAndTwoPoints();
+        x.due(1, "swap", 1, 0);
+        x.due(2, "signs", 0);
+        x.due(1, "swap", 1, 2);
+        x.due(4, "signs", 0);
+        x.due(1, "swap", 0, 0);
+        x.due(4, "signs", 0);
+    }
+
+    /** One circle touches x = 0 from its left, and goes through both POINTS: -1, 0 with r 1, by SIGNS 1. */
+    private void straightAndTwoPoints() {
+        x.due(0, "straight", 0, 0);
+        x.due(1, "round", -1, 1, 0);
+        x.due(2, "round", -1, -1, 0);
+        x.due(1, "signs", 0);
+    }
+
     @Said(where = "Promise 9", words = "BEYOND.")
     void swapBeyond() {
         x.refused(BEYOND, "swap", 0, 0);
@@ -412,6 +431,17 @@ final class BoundaryShapes extends Boundary {
             x.due(many, "turn");
             x.due(many, "prune", 0);
         }
+    }
+
+    @Said(where = "Promise 10", words = "SHAPES are numbered the other way round: how many there are.")
+    void turnedShapesHaveOtherSigns() {
+        straightAndTwoPoints();
+        x.due(3, "turn");
+        x.due(4, "signs", 0);
+        x.due(3, "straight", 1, 5);
+        x.due(4, "turn");
+        x.due(1, "three", 1, 2, 3);
+        x.due(1, "signs", 0);
     }
 
     // ---- 11: lie

@@ -48,6 +48,27 @@ final class BoundarySigns extends Boundary {
         x.refused(NONE, "signs", 2);
     }
 
+    @Said(where = "Terms", words = "A circle (centre x, y, radius r above 0)")
+    void radiusIsAboveZeroByItsRoot() {
+        // by SIGNS 0 r is (8 root 15 less 29) by 2, some 0.99; the other place where the equations hold has r below 0
+        x.due(0, "round", 0, -1, 4);
+        x.due(1, "round", -2, -1, 3);
+        x.due(2, "straight", 5, -5);
+        x.due(8, "answers", 0);
+        x.due(255, "answers", 2);
+        x.part(0, 2, -29, 8, 15, 2);
+        x.part(7, 2, 29, 8, 15, 2);
+        // two by SIGNS 2, 4, 6, 7 each; by 5, 3, 1, 0 both would be below 0
+        Run y = new Run();
+        y.due(0, "straight", 5, -8);
+        y.due(1, "straight", 0, 1);
+        y.due(2, "round", 0, -1, 3);
+        y.due(8, "answers", 0);
+        y.due(0b11010100, "answers", 2);
+        y.part(4, 2, 19, -4, 13, 9);
+        y.part(6, 2, 21, -12, 2, 1);
+    }
+
     @Said(where = "Terms", words = " TOUCHES a ROUND with that bit 0 if the square of how far the centres are apart is the "
         + "square of r less RADIUS, with bit 1 if that of r and RADIUS;")
     void touchingInsideAndOutside() {
@@ -242,6 +263,27 @@ final class BoundarySigns extends Boundary {
         x.circle(1, 0, 1, 1);
         x.part(2, 0, -3, 0, 0, 4);
         x.part(2, 2, 1, 0, 0, 4);
+        for (int[] order : ORDERS) {
+            x.due(1, "three", order[0], order[1], order[2]);
+            x.due(3, "answers", 0);
+            x.due(0, "answers", 1);
+        }
+    }
+
+    @Said(where = "Terms", words = LOOSE)
+    void whatNeverMeetsTheOneThatStaysOnEitherSide() {
+        // the same on the other side: x = 1 - r, in each direction of the line in which both equations hold
+        x.due(0, "round", 0, 1, 1);
+        x.due(1, "round", 0, -1, 1);
+        x.due(2, "straight", 0, 1);
+        for (int[] order : ORDERS) {
+            x.due(1, "three", order[0], order[1], order[2]);
+            x.due(3, "answers", 0);
+            x.due(0, "answers", 1);
+            x.due(0, "rank", 2);
+            x.due(1, "answer", 2, 2, 0);
+            x.due(4, "answer", 2, 2, 3);
+        }
     }
 
     private static final String ALL = "ANSWERS: all circles that TOUCH each of THE THREE with its bit, by all SIGNS that count "
@@ -287,6 +329,47 @@ final class BoundarySigns extends Boundary {
         x.due(0, "answers", 2);
     }
 
+    @Said(where = "Terms", words = ALL)
+    void answersOfStraightsThatAllLieOffZero() {
+        // the triangle 1, 1; 5, 1; 1, 4
+        x.due(0, "straight", 0, 1);
+        x.due(1, "straight", 1, 1);
+        x.due(2, "straight", 2, 19);
+        for (int[] order : ORDERS) {
+            x.due(1, "three", order[0], order[1], order[2]);
+            x.due(4, "answers", 0);
+            x.circle(0, 7, 7, 6);
+            x.due(2, "answer", (int) x.ask("best", 1), 0, 0);
+            x.due(2, "answer", (int) x.ask("best", 1), 1, 0);
+            x.due(1, "answer", (int) x.ask("best", 1), 2, 0);
+        }
+    }
+
+    @Said(where = "Terms", words = ALL)
+    void answersOfStraightsBehindThoseOfRounds() {
+        threeRounds(x);
+        x.due(3, "straight", 0, 0);
+        x.due(4, "straight", 1, 0);
+        x.due(5, "straight", 2, 12);
+        x.due(8, "answers", 0);
+        x.due(1, "three", 3, 4, 5);
+        x.due(4, "answers", 0);
+        x.circle(0, 6, 6, 6);
+        x.circle(1, 1, 1, 1);
+        x.due(1, "three", 2, 1, 0);
+        x.due(8, "answers", 0);
+        // a line as steep as the cone behind one that isn't
+        x.due(6, "prune", 0);
+        x.due(0, "round", 0, 1, 1);
+        x.due(1, "round", 0, -1, 1);
+        x.due(2, "straight", 0, -2);
+        x.due(1, "three", 1, 2, 0);
+        x.circle(0, 0, 0, 2);
+        x.due(0, "signs", 0);
+        x.due(1, "three", 0, 1, 2);
+        x.circle(0, 0, 0, 2);
+    }
+
     private static final String NUMBERED = " numbered by SIGNS (as numbers), of like ones the lesser r first, of like r the "
         + "lesser x, then the lesser y.";
 
@@ -310,6 +393,16 @@ final class BoundarySigns extends Boundary {
             x.due(1, "three", order[0], order[1], order[2]);
             x.circle(0, 1, 1, 1);
             x.circle(1, 5, 5, 5);
+        }
+        // below 0 the lesser r has the greater x and y
+        Run y = new Run();
+        y.due(0, "straight", 0, 0);
+        y.due(1, "straight", 1, 0);
+        y.due(2, "round", -1, -2, 0);
+        for (int[] order : ORDERS) {
+            y.due(1, "three", order[0], order[1], order[2]);
+            y.circle(0, -1, -1, 1);
+            y.circle(1, -5, -5, 5);
         }
     }
 
