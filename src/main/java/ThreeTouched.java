@@ -48,7 +48,7 @@ public final class ThreeTouched {
     private final Sheet[] sheets = new Sheet[SHEETS];
     private final Judge judge = new Judge();
     private final Worker worker = new Worker();
-    private final Finder finder = new Finder(judge);
+    private final Finder finder = new Finder();
     private final int[] findings = new int[FINDINGS];
 
     public ThreeTouched() {
@@ -1552,7 +1552,7 @@ public final class ThreeTouched {
      * degree are planes, which cross in a line: ANSWERS are where this line meets the cone.
      */
     private static final class Finder {
-        private final Judge judge;
+        private final Judge judge = new Judge();
         final Circle[] circles = new Circle[MOST_ANSWERS];
         int size;
         int loose;
@@ -1569,8 +1569,7 @@ public final class ThreeTouched {
         private long m;
         private final Num root = new Num();
 
-        Finder(Judge judge) {
-            this.judge = judge;
+        Finder() {
             for (int i = 0; i < MOST_ANSWERS; i++) {
                 circles[i] = new Circle();
             }

@@ -17,6 +17,7 @@ import com.sun.source.tree.Tree;
 import com.sun.source.tree.TryTree;
 import com.sun.source.tree.VariableTree;
 import com.sun.source.util.JavacTask;
+import com.sun.source.util.TreePath;
 import com.sun.source.util.TreePathScanner;
 import com.sun.source.util.Trees;
 import java.lang.management.ManagementFactory;
@@ -249,7 +250,19 @@ public final class RulesTests {
             if (method != null && !mayMake) {
                 refuse(tree, "an object made outside of a constructor");
             }
+            for (ExpressionTree argument : tree.getArguments()) {
+                if (isOfObject(argument)) {
+                    refuse(tree, "a constructor hands out " + argument);
+                }
+            }
             return super.visitNewClass(tree, v);
+        }
+
+        /** Whether an expression is this, or a field of it: what a constructor may not hand to another class. */
+        private boolean isOfObject(ExpressionTree argument) {
+            Element named = trees.getElement(new TreePath(getCurrentPath(), argument));
+            return named != null && named.getKind() == ElementKind.FIELD && !named.getModifiers().contains(Modifier.STATIC)
+                || argument.toString().equals("this");
         }
 
         @Override
